@@ -20,6 +20,7 @@ public final class FaceTest {
         T.due("NONE", DotThresholds.NONE, -9);
         methods();
         fields();
+        classesInside();
         Constructor<?>[] made = DotThresholds.class.getDeclaredConstructors();
         T.due("constructors", made.length, 1);
         T.due("its parameters", made[0].getParameterCount(), 0);
@@ -27,12 +28,29 @@ public final class FaceTest {
         T.end();
     }
 
+    private static long publicOnes(String name) {
+        return METHODS.stream().filter(m -> m.startsWith(name + " ")).count();
+    }
+
+    private static void classesInside() {
+        for (Class<?> inside : DotThresholds.class.getDeclaredClasses()) {
+            T.due(inside + " is private, static and final", inside.getModifiers(),
+                Modifier.PRIVATE | Modifier.STATIC | Modifier.FINAL);
+            for (Method method : inside.getDeclaredMethods()) {
+                T.due(method + " bears a public name", publicOnes(method.getName()), 0);
+            }
+            for (Field field : inside.getDeclaredFields()) {
+                boolean isFinal = Modifier.isFinal(field.getModifiers());
+                T.due(field + " is static state", Modifier.isStatic(field.getModifiers()) && !isFinal ? 1 : 0, 0);
+            }
+        }
+    }
+
     private static void methods() {
         Set<String> seen = new TreeSet<>();
         for (Method method : DotThresholds.class.getDeclaredMethods()) {
             if (Modifier.isPrivate(method.getModifiers())) {
-                String name = method.getName();
-                T.due("private " + name + " bears a public name", METHODS.stream().filter(m -> m.startsWith(name + " ")).count(), 0);
+                T.due(method + " bears a public name", publicOnes(method.getName()), 0);
                 continue;
             }
             seen.add(method.getName() + " " + method.getParameterCount());

@@ -68,6 +68,10 @@ public final class HoldTest {
         T.due("better(0), below 0", x.better(0), 11 - 16);
         T.due("better(1), the lowest DOT", x.better(1), 0);
         T.due("better(2), the lowest CELL", x.better(2), 1);
+        x = Due.told("g4 1;d1 0;d2 0;");
+        T.due("better(0), to CELL 0", x.better(0), 50 - 20);
+        T.due("better(1), to CELL 0", x.better(1), 1);
+        T.due("better(2), to CELL 0", x.better(2), 0);
         x = Due.told("s0 0;d2 2;");
         T.due("better(0), one DOT", x.better(0), 0);
         T.due("better(1), one DOT", x.better(1), 10);

@@ -61,8 +61,10 @@ public final class PictureTest {
         x.flips(2, 0);
         T.due("refused: ink(2, 0)", x.ink(2, 0), 1);
         T.due("refused: ink(3, 0)", x.ink(3, 0), 0);
-        Due.reads(x, "g5 1;d0 0;");
-        T.due("anew: ink(0, 0)", x.ink(0, 0), 0);
+        x.paints(9, 9, 9);
+        Due.reads(x, "g4 4;d3 3;");
+        T.due("anew: ink(3, 3)", x.ink(3, 3), 0);
+        T.due("anew: off()", x.off(), 0);
     }
 
     /** FREE is 2: no LEVEL is above it. */

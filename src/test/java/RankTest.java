@@ -8,6 +8,8 @@ public final class RankTest {
         ranks("g6 1;d0 0;d1 0;d2 0;", new int[] {2, 0, 1, 4, 3, 5}, new int[] {0, 0, 0, 2, 2, 2});
         ranks("g2 2;d0 0;d1 0;d0 1;d1 1;", new int[] {2, 1, 3, 0}, new int[] {0, 0, 0, 0});
         ranks("g1 1;d0 0;", new int[] {0}, new int[] {0});
+        ranks("g5 1;d2 0;d3 0;", new int[] {3, 2, 0, 1, 4}, new int[] {0, 0, 1, 2, 2});
+        ranks("g4 1;d1 0;d2 0;", new int[] {2, 1, 0, 3}, new int[] {0, 0, 2, 2});
         turnedByFreeCellsAlone();
         ranksAsDotsAreNow();
         refusedWithoutDots();

@@ -81,6 +81,9 @@ public final class SeenTest {
         x.forget();
         x.sees(0, 8);
         fit(x, 0, Due.NONE, Due.NONE);
+        x.forget();
+        x.sees(8, 2);
+        fit(x, 1, 4, 4);
         // what was SEEN stays, as DOTS are now
         x.forget();
         x.sees(0, 0);
