@@ -8,6 +8,7 @@ public final class GridTest {
         clear();
         gridCountsItems();
         gridFindsFaults();
+        gridReadsThisTextAlone();
         gridTellsAllAnew();
         gridRefusedChangesNothing();
         cell();
@@ -146,6 +147,9 @@ public final class GridTest {
         fault("k0 99999999999999999999 1;", "   ^");
         fault("d-1 0;", " ^");
         fault("d0 4294967296;", "   ^");
+        fault("d0 0;00", "     ^");
+        fault("d0 0;1000", "     ^");
+        fault("00", "^");
         // it ends too early
         fault("d", " ^");
         fault("d0", "  ^");
@@ -155,6 +159,27 @@ public final class GridTest {
         // the first one counts
         fault("d0 9;x", "   ^");
         fault("d0 0 x 9;", "     ^");
+    }
+
+    /** Letters of a text that was cleared, or read, are not read on behind a shorter one. */
+    private static void gridReadsThisTextAlone() {
+        DotThresholds x = new DotThresholds();
+        Due.types(x, "d0 01;");
+        x.clear();
+        Due.types(x, "d0 0");
+        T.due("grid() of a text that ends in a NUMBER", x.grid(), -10 - 4);
+        x.clear();
+        Due.types(x, "d1 1;d2 2;");
+        T.due("grid()", x.grid(), 2);
+        Due.types(x, "d3 3;");
+        T.due("grid() of a shorter one", x.grid(), 1);
+        T.shows("the shorter one", x, "..../..../..../...o/");
+        x.clear();
+        for (int n = 0; n < 149; n++) {
+            x.type(' ');
+        }
+        x.type('7');
+        T.due("grid() of a NUMBER at the very end", x.grid(), -10 - 149);
     }
 
     private static void gridTellsAllAnew() {

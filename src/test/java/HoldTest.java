@@ -8,6 +8,7 @@ public final class HoldTest {
         energy();
         better();
         betterOfNone();
+        largestGrid();
         shifts();
         T.end();
     }
@@ -87,6 +88,28 @@ public final class HoldTest {
             T.due(text + " better(2)", x.better(2), Due.NONE);
             T.due(text + " better(3)", x.better(3), Due.BAD);
         }
+    }
+
+    /** All 64 CELLS are there, and no one counts twice. */
+    private static void largestGrid() {
+        DotThresholds x = Due.told("g8 8;k1 1 1;d0 0;d7 7;");
+        T.due("energy(), 8 8", x.energy(), 0);
+        T.due("held(7, 7), 8 8", x.held(7, 7), 1);
+        x = Due.told("g8 8;d0 0;d1 0;");
+        T.due("energy(), 8 8, two DOTS", x.energy(), 50);
+        for (int c = 2; c < 64; c++) {
+            x.flips(c % 8, c / 8);
+        }
+        T.due("extreme(1), 8 8, all DOTS", x.extreme(1), Due.NONE);
+        T.due("better(1), 8 8, all DOTS", x.better(1), Due.NONE);
+        x.flips(0, 0);
+        T.due("better(2), 8 8, one CELL left", x.better(2), 0);
+        T.due("better(0), 8 8, one CELL left", x.better(0), 50 - 50);
+        T.due("better(1), 8 8, one CELL left", x.better(1), 1);
+        x.flips(0, 0);
+        x.flips(7, 7);
+        T.due("better(2), 8 8, the last CELL left", x.better(2), 63);
+        T.due("extreme(1), 8 8, the last CELL left", x.extreme(1), 63);
     }
 
     private static void shifts() {

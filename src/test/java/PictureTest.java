@@ -7,6 +7,7 @@ public final class PictureTest {
         picturesOfASquare();
         pictureStays();
         shutCells();
+        largestGrid();
         refused();
         T.end();
     }
@@ -73,6 +74,15 @@ public final class PictureTest {
         picture(x, 64, 0, 0, "101", 0);
         picture(x, 0, 1, 0, "001", 2 - 2);
         picture(x, 1, 0, 0, "001", 2 - 2);
+    }
+
+    /** All 64 CELLS are printed, and no one twice. */
+    private static void largestGrid() {
+        DotThresholds x = Due.told("g8 8;d0 0;");
+        T.due("8 8: paints(64, 0, 0)", x.paints(64, 0, 0), 64);
+        T.due("8 8: off()", x.off(), 0);
+        T.due("8 8: paints(1, 0, 0)", x.paints(1, 0, 0), 1);
+        T.due("8 8: off()", x.off(), 0);
     }
 
     private static void refused() {
