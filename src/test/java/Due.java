@@ -51,8 +51,9 @@ final class Due {
     /** All CELLS, line by line: . empty, o a DOT, x SHUT. */
     static String shown(DotThresholds x) {
         StringBuilder all = new StringBuilder();
-        for (int y = 0; y < x.count(1); y++) {
-            for (int i = 0; i < x.count(0); i++) {
+        int width = x.count(0), height = x.count(1);
+        for (int y = 0; y < height; y++) {
+            for (int i = 0; i < width; i++) {
                 all.append(".ox".charAt(x.cell(i, y)));
             }
             all.append('/');
