@@ -24,6 +24,8 @@ public final class DoneEdgesTest {
     private static void flipsRefused() {
         E.of(7, "FLIPPED: whether it has a DOT then (1, 0). BAD");
         E.badBeyond("flips(n, 0)", 0, 2, (x, n) -> x.flips(n, 0), Starts.TOLD);
+        E.badBeyond("flips(n, 1)", 0, 2, (x, n) -> x.flips(n, 1), Starts.TOLD);
+        E.badBeyond("flips(0, n)", 0, 1, (x, n) -> x.flips(0, n), Starts.TOLD);
         E.badBeyond("flips(2, n)", 0, 1, (x, n) -> x.flips(2, n), Starts.TOLD);
         E.badBeyond("flips(n, n)", 0, 2, (x, n) -> x.flips(n, n), Starts.TOLD);
         // behind the SHUT CELL's line and column

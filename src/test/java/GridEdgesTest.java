@@ -463,6 +463,8 @@ public final class GridEdgesTest {
     private static void cell() {
         E.of(5, "A CELL: 0 empty, 1 a DOT, 2 SHUT. BAD.");
         E.badBeyond("cell(n, 0)", 0, 2, (x, n) -> x.cell(n, 0), Starts.TOLD);
+        E.badBeyond("cell(n, 1)", 0, 2, (x, n) -> x.cell(n, 1), Starts.TOLD);
+        E.badBeyond("cell(0, n)", 0, 1, (x, n) -> x.cell(0, n), Starts.TOLD);
         E.badBeyond("cell(2, n)", 0, 1, (x, n) -> x.cell(2, n), Starts.TOLD);
         E.badBeyond("cell(n, n)", 0, 2, (x, n) -> x.cell(n, n), Starts.TOLD);
         E.bad("cell(4, 0)", x -> x.cell(4, 0), Starts.NEW);

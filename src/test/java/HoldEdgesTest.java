@@ -24,6 +24,8 @@ public final class HoldEdgesTest {
     private static void heldRefused() {
         E.of(11, "HELD. BAD.");
         E.badBeyond("held(n, 0)", 0, 2, (x, n) -> x.held(n, 0), Starts.TOLD);
+        E.badBeyond("held(n, 1)", 0, 2, (x, n) -> x.held(n, 1), Starts.TOLD);
+        E.badBeyond("held(0, n)", 0, 1, (x, n) -> x.held(0, n), Starts.TOLD);
         E.badBeyond("held(2, n)", 0, 1, (x, n) -> x.held(2, n), Starts.TOLD);
         E.badBeyond("held(n, n)", 0, 2, (x, n) -> x.held(n, n), Starts.TOLD);
         E.bad("held(4, 0)", x -> x.held(4, 0), Starts.NEW);
@@ -160,6 +162,8 @@ public final class HoldEdgesTest {
         E.of(14, "by how much ENERGY is less, if it is MOVED there: the most");
         betters("g2 1;d1 0;", 0, 1, 0);
         betters("g8 1;d0 0;d7 0;", 50 - 5, 0, 3);
+        betters("g8 8;d0 0;d1 0;", 50 - 3, 0, 29);
+        betters("g8 8;d6 7;d7 7;", 50 - 3, 62, 19);
         E.of(14, "of several the lowest DOT, then the lowest CELL");
         betters("g3 1;d2 0;", 0, 2, 0);
         betters("g3 1;s0 0;d2 0;", 0, 2, 1);

@@ -147,6 +147,8 @@ public final class PictureEdgesTest {
     private static void inkRefused() {
         E.of(22, "Whether a CELL is in the PRINT (1, 0). BAD; STATE.");
         E.badBeyond("ink(n, 0)", 0, 2, (x, n) -> x.ink(n, 0), Starts.TOLD);
+        E.badBeyond("ink(n, 1)", 0, 2, (x, n) -> x.ink(n, 1), Starts.TOLD);
+        E.badBeyond("ink(0, n)", 0, 1, (x, n) -> x.ink(0, n), Starts.TOLD);
         E.badBeyond("ink(2, n)", 0, 1, (x, n) -> x.ink(2, n), Starts.TOLD);
         E.badBeyond("ink(n, n)", 0, 2, (x, n) -> x.ink(n, n), Starts.TOLD);
         E.bad("ink(4, 0)", x -> x.ink(4, 0), Starts.NEW);
@@ -188,6 +190,17 @@ public final class PictureEdgesTest {
         // the LEVEL of the SHUT CELL does not count
         picture("g3 1;s0 0;d1 0;", 1, 0, 0, "010", 2 - 2);
         picture("g3 1;s2 0;d0 0;", 0, 1, 0, "000", 0 - 1);
+        largestOff();
         E.asks("off()", DotThresholds::off, Starts.WITH_DOTS);
+    }
+
+    private static void largestOff() {
+        E.of(23, "FREE times how many CELLS the PRINT has, less all LEVELS of FREE CELLS together");
+        DotThresholds x = Due.told("g8 8;d0 0;");
+        int[] bases = {0, 1, 63, 64};
+        for (int base : bases) {
+            E.due("64 CELLS, paints(" + base + ", 0, 0)", x.paints(base, 0, 0), base);
+            E.due("64 CELLS, paints(" + base + ", 0, 0), off()", x.off(), 0);
+        }
     }
 }

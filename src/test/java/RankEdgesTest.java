@@ -26,6 +26,8 @@ public final class RankEdgesTest {
     private static void rankRefused() {
         E.of(16, "RANK; NONE: SHUT. BAD; STATE.");
         E.badBeyond("rank(n, 0)", 0, 2, (x, n) -> x.rank(n, 0), Starts.TOLD);
+        E.badBeyond("rank(n, 1)", 0, 2, (x, n) -> x.rank(n, 1), Starts.TOLD);
+        E.badBeyond("rank(0, n)", 0, 1, (x, n) -> x.rank(0, n), Starts.TOLD);
         E.badBeyond("rank(2, n)", 0, 1, (x, n) -> x.rank(2, n), Starts.TOLD);
         E.badBeyond("rank(n, n)", 0, 2, (x, n) -> x.rank(n, n), Starts.TOLD);
         E.bad("rank(4, 0)", x -> x.rank(4, 0), Starts.NEW);
@@ -80,6 +82,8 @@ public final class RankEdgesTest {
     private static void stageRefused() {
         E.of(18, "0 THINNED, 1 FILLED, 2 TURNED; NONE: SHUT. BAD; STATE.");
         E.badBeyond("stage(n, 0)", 0, 2, (x, n) -> x.stage(n, 0), Starts.TOLD);
+        E.badBeyond("stage(n, 1)", 0, 2, (x, n) -> x.stage(n, 1), Starts.TOLD);
+        E.badBeyond("stage(0, n)", 0, 1, (x, n) -> x.stage(0, n), Starts.TOLD);
         E.badBeyond("stage(2, n)", 0, 1, (x, n) -> x.stage(2, n), Starts.TOLD);
         E.badBeyond("stage(n, n)", 0, 2, (x, n) -> x.stage(n, n), Starts.TOLD);
         E.bad("stage(4, 0)", x -> x.stage(4, 0), Starts.NEW);
@@ -151,6 +155,24 @@ public final class RankEdgesTest {
         }
         E.due("all have DOTS, ranked(63)", x.ranked(63), 0);
         E.due("all have DOTS, stage(7, 7)", x.stage(7, 7), 0);
+        allSixtyFourAtOnce();
+    }
+
+    /** RANKS are asked for only when all have DOTS. */
+    private static void allSixtyFourAtOnce() {
+        E.of(17, "RANKS 0, 1, .. of all FREE CELLS");
+        DotThresholds x = Due.told("g8 8;");
+        for (int c = 0; c < 64; c++) {
+            x.flips(c % 8, c / 8);
+        }
+        boolean[] found = new boolean[64];
+        for (int rank = 0; rank < 64; rank++) {
+            int c = x.ranked(rank);
+            E.due("CELL " + c + " has one RANK", found[c] ? 1 : 0, 0);
+            found[c] = true;
+            E.due("rank of " + c, x.rank(c % 8, c / 8), rank);
+        }
+        E.due("the lowest is the TIGHTEST of all", x.ranked(63), 0);
     }
 
     private static void ranksAsDotsAreNow() {
@@ -228,6 +250,9 @@ public final class RankEdgesTest {
         shades("g2 1;d0 0;", 1, NONE, 1, 0);
         shades("g4 1;d0 0;", 1, NONE, 4, 1, 1, 0);
         shades("g5 1;d0 0;d4 0;", 1, NONE, 4, 4, 1, 1, 0);
+        // the first and the last CELL alone are far off
+        shades("g4 1;d2 0;", 1, NONE, 4, 1, 1, 0);
+        shades("g4 1;d1 0;", 1, NONE, 4, 1, 1, 0);
         // SHUT CELLS are no part of it
         shades("g3 1;s0 0;s2 0;d1 0;", 1, NONE, 0);
         shades("g4 1;s2 0;d0 0;", 1, NONE, 1, 1, 0);
