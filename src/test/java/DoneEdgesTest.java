@@ -110,24 +110,23 @@ public final class DoneEdgesTest {
         restsStepByStep();
     }
 
-    /** n STEPS at once are n times one STEP. */
+    /** n STEPS at once are n times one STEP, till there is no more to do. */
     private static void restsStepByStep() {
         E.of(8, "or as many as are told");
-        DotThresholds one = crowd();
-        int steps = 0;
-        while (steps < 64 && one.rests(1) == 1) {
-            steps++;
-            DotThresholds many = crowd();
-            E.due("rests(" + steps + ")", many.rests(steps), steps);
-            E.shows("rests(" + steps + ")", many, Due.shown(one));
-        }
+        int steps = crowd().rests(64);
         E.due("it takes more than ten", steps > 10 ? 1 : 0, 1);
-        DotThresholds more = crowd();
-        E.due("rests(1 more)", more.rests(steps + 1), steps);
-        E.shows("rests(1 more)", more, Due.shown(one));
-        more = crowd();
-        E.due("rests(64)", more.rests(64), steps);
-        E.shows("rests(64)", more, Due.shown(one));
+        int[] some = {1, 2, steps - 1, steps, steps + 1, 64};
+        for (int n : some) {
+            DotThresholds many = crowd();
+            E.due("rests(" + n + ")", many.rests(n), Math.min(n, steps));
+            DotThresholds one = crowd();
+            int moved = 0;
+            for (int i = 0; i < n; i++) {
+                moved += one.rests(1);
+            }
+            E.due(n + " times rests(1)", moved, Math.min(n, steps));
+            E.shows("rests(" + n + ")", many, Due.shown(one));
+        }
     }
 
     private static DotThresholds crowd() {
