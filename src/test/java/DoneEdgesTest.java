@@ -9,6 +9,7 @@ public final class DoneEdgesTest {
         restsRefused();
         restsToTheSameCell();
         restsAsManyAsTold();
+        restsForLong();
         restsOfSeveral();
         movesRefused();
         movesOfFewCells();
@@ -127,6 +128,40 @@ public final class DoneEdgesTest {
             E.due(n + " times rests(1)", moved, Math.min(n, steps));
             E.shows("rests(" + n + ")", many, Due.shown(one));
         }
+    }
+
+    /** The longest that a search found; how many STEPS and where they end was told by two other programs. */
+    private static void restsForLong() {
+        E.of(8, "RESTED, n STEPS at most (1 .. 64)");
+        String first = "..xxx.../xx..oxxx/.xo..xoo/.oooo.oo/oo.ooooo/ooo.ooo./o.....oo/.o....../";
+        String last = "..xxx.../xx...xxx/oxoooxoo/oooooooo/......../......../.oo..ooo/oooooooo/";
+        for (int n = 46; n <= 64; n++) {
+            DotThresholds x = shownAs("k1 503 7;a1 4;", first);
+            E.due("rests(" + n + ") of 47", x.rests(n), Math.min(n, 47));
+            E.due("rests(64) behind rests(" + n + ")", x.rests(64), n == 46 ? 1 : 0);
+            E.shows("rests(64) behind rests(" + n + ")", x, last);
+            x.undo();
+            x.undo();
+            E.shows("both undone", x, first);
+        }
+    }
+
+    /** 8 by 8 CELLS as Due.shown() shows them; DOTS are set by hand, since a text has no room for so many. */
+    private static DotThresholds shownAs(String items, String shown) {
+        StringBuilder text = new StringBuilder("g8 8;").append(items);
+        String cells = shown.replace("/", "");
+        for (int c = 0; c < 64; c++) {
+            if (cells.charAt(c) == 'x') {
+                text.append('s').append(c % 8).append(' ').append(c / 8).append(';');
+            }
+        }
+        DotThresholds x = Due.told(text.toString());
+        for (int c = 0; c < 64; c++) {
+            if (cells.charAt(c) == 'o') {
+                x.flips(c % 8, c / 8);
+            }
+        }
+        return x;
     }
 
     private static DotThresholds crowd() {
